@@ -812,6 +812,8 @@ public final class ToneSets {
 
         private int goals = 0;
         private int goers = 0;
+        /** A bit for each goer. */
+        private int reached = 0;
         private final int[] goalTones = new int[SPOTS];
         private final int[] goerTones = new int[SPOTS];
         private final int[] extra = new int[SPOTS * SPOTS];
@@ -820,7 +822,6 @@ public final class ToneSets {
         private final int[] goalOfGoer = new int[SPOTS];
         private final int[] cameFrom = new int[SPOTS];
         private final int[] slack = new int[SPOTS];
-        private final boolean[] reached = new boolean[SPOTS];
 
         /** Neither set is 0. */
         int least(int one, int other, int size) {
@@ -885,11 +886,11 @@ public final class ToneSets {
         /** Each step reaches one goer more, so there are no more steps than goers. */
         private int findFreeGoer(int goal) {
             Arrays.fill(slack, FAR);
-            Arrays.fill(reached, false);
+            reached = 0;
             goalOfGoer[0] = goal;
             int goer = 0;
             for (int step = 0; step <= goers && goalOfGoer[goer] != 0; step++) {
-                reached[goer] = true;
+                reached |= 1 << goer;
                 int next = closestUnreached(goer);
                 shiftPrices(slack[next]);
                 goer = next;
@@ -897,11 +898,15 @@ public final class ToneSets {
             return goer;
         }
 
+        private boolean isReached(int goer) {
+            return (reached & (1 << goer)) != 0;
+        }
+
         private int closestUnreached(int goer) {
             int goal = goalOfGoer[goer];
             int closest = 0;
             for (int next = 1; next <= goers; next++) {
-                if (reached[next]) {
+                if (isReached(next)) {
                     continue;
                 }
                 int gap = extra[goal * SPOTS + next] - goalPrices[goal] - goerPrices[next];
@@ -918,7 +923,7 @@ public final class ToneSets {
 
         private void shiftPrices(int shift) {
             for (int goer = 0; goer <= goers; goer++) {
-                if (reached[goer]) {
+                if (isReached(goer)) {
                     goalPrices[goalOfGoer[goer]] += shift;
                     goerPrices[goer] -= shift;
                 } else {
