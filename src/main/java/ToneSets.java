@@ -352,17 +352,13 @@ public final class ToneSets {
 
         /** At least 1, as each set is its own turn by 0. */
         static int kinOf(int set, int size) {
-            return countImages(set, set, size);
-        }
-
-        private static int countImages(int set, int wanted, int size) {
             int mirror = mirrored(set, size);
             int count = 0;
             for (int turn = 0; turn < size; turn++) {
-                if (turned(set, turn, size) == wanted) {
+                if (turned(set, turn, size) == set) {
                     count++;
                 }
-                if (turned(mirror, turn, size) == wanted) {
+                if (turned(mirror, turn, size) == set) {
                     count++;
                 }
             }
