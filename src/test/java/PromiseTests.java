@@ -1,33 +1,5 @@
 /** For each promise of the document: ordinary calls, the edges that it names, and wrong inputs. */
-public final class PromiseTests {
-    private static final int NONE = -1, UNKNOWN = -1000000001, OUTSIDE = -1000000002, NOT = -1000000003, FULL = -1000000004;
-    private static final int MIN = Integer.MIN_VALUE, MAX = Integer.MAX_VALUE;
-    private static int wrong = 0;
-
-    private static void due(String what, int got, int want) {
-        if (got != want) {
-            wrong++;
-            System.out.println(what + " answered " + got + ", due is " + want);
-        }
-    }
-
-    private static ToneSets shelf(int m, int... sets) {
-        ToneSets x = new ToneSets();
-        x.ring(m);
-        for (int set : sets) {
-            x.put(set);
-        }
-        return x;
-    }
-
-    private static int set(int... tones) {
-        int set = 0;
-        for (int tone : tones) {
-            set |= 1 << tone;
-        }
-        return set;
-    }
-
+public final class PromiseTests extends Checks {
     public static void main(String[] args) {
         newObject();
         toldOfForms();
@@ -61,10 +33,7 @@ public final class PromiseTests {
         goBack();
         refusedChangesNothing();
         firstRefusalCounts();
-        System.out.println(wrong == 0 ? "promises: all answers are as due" : "promises: " + wrong + " answers are not as due");
-        if (wrong != 0) {
-            System.exit(1);
-        }
+        end("promises");
     }
 
     // ---- promise 1
