@@ -11,6 +11,8 @@ public final class ToneSets {
     private static final int MOST_DEEDS = 16;
     private static final int MOST_ENTRIES = 20;
     private static final int IMAGES = 2;
+    /** Above the length of every way and every row of ways. */
+    private static final int FAR = 1000000;
 
     private final Shelf shelf;
     private final Past past;
@@ -800,7 +802,6 @@ public final class ToneSets {
      * found by growing prices, goal by goal. Goals and goers have numbers from 1 on; 0 is none.
      */
     private static final class Ways {
-        private static final int FAR = 1000000;
         private static final int SPOTS = MOST_RING + 1;
 
         int nearestNumber = 0;
@@ -996,7 +997,7 @@ public final class ToneSets {
             if (before == 0) {
                 return lengths[last + 1];
             }
-            int least = Integer.MAX_VALUE;
+            int least = FAR;
             for (int other = 0; other < others; other++) {
                 if ((before & (1 << other)) != 0) {
                     int length = best[before * MOST_OTHERS + other] + lengths[(other + 1) * MOST_PLACES + last + 1];

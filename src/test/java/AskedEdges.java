@@ -433,6 +433,7 @@ public final class AskedEdges extends Checks {
             ToneSets y = shelf(m, set(0), set(1));
             due("next door in a ring of " + m, y.easy(0, 1, 1), set(1));
             due("behind that a like one in a ring of " + m, y.easy(1, 1, 1), NONE);
+            due("what it costs in a ring of " + m, y.easy(1, 1, 0), 0);
         }
     }
 

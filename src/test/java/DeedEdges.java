@@ -23,6 +23,7 @@ public final class DeedEdges extends Checks {
         joinBounds();
         joinWithItself();
         joinOfNoneAndAll();
+        joinToNone();
         swapPlaces();
         swapAnswers();
         swapWithItself();
@@ -321,6 +322,17 @@ public final class DeedEdges extends Checks {
                 due("none with all by " + kind, shelf(m, 0, all).join(0, 1, kind), noneWithAll[kind]);
                 due("all with none by " + kind, shelf(m, 0, all).join(1, 0, kind), allWithNone[kind]);
             }
+        }
+    }
+
+    private static void joinToNone() {
+        says("the SET then");
+        for (int kind : new int[] {0, 2, 3}) {
+            int other = kind == 0 ? set(2, 3) : set(0, 1);
+            ToneSets x = shelf(12, set(0, 1), other);
+            due("to none by " + kind, x.join(0, 1, kind), 0);
+            due("the shelf", places(x), "0 " + other + " ");
+            due("it can be undone", x.told(8), 4);
         }
     }
 

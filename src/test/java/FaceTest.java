@@ -111,7 +111,7 @@ public final class FaceTest {
             must(imported.group(1).equals("java.util.Arrays"), "nothing but Arrays is imported: " + imported.group(1));
         }
         Matcher call = Pattern.compile("\\b(Arrays|Math|Integer)\\.(\\w+)").matcher(source);
-        Set<String> allowed = new HashSet<>(Arrays.asList("fill", "min", "max", "abs", "bitCount", "MAX_VALUE"));
+        Set<String> allowed = new HashSet<>(Arrays.asList("fill", "min", "max", "abs", "bitCount"));
         while (call.find()) {
             must(allowed.contains(call.group(2)), call.group() + " is of the library that the rules leave");
         }

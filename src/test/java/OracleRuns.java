@@ -278,6 +278,7 @@ public final class OracleRuns {
         final ArrayDeque<Object[]> past = new ArrayDeque<>();
         final Object[][] images = new Object[2][];
         private static final Map<Integer, List<TreeSet<Integer>>> FORMS = new TreeMap<>();
+        private static final Map<Integer, Integer> TWIN_PAIRS = new TreeMap<>();
 
         boolean has(int p) {
             return p >= 0 && p < sets.size();
@@ -366,13 +367,16 @@ public final class OracleRuns {
         }
 
         int twinPairs() {
-            int n = 0;
-            for (Set<Integer> forms : allForms()) {
-                for (int form : forms) {
-                    n += twins(form);
+            if (!TWIN_PAIRS.containsKey(m)) {
+                int n = 0;
+                for (Set<Integer> forms : allForms()) {
+                    for (int form : forms) {
+                        n += twins(form);
+                    }
                 }
+                TWIN_PAIRS.put(m, n / 2);
             }
-            return n / 2;
+            return TWIN_PAIRS.get(m);
         }
 
         /** Tone by tone of the larger, by which of the smaller have been gone to. */
@@ -389,7 +393,7 @@ public final class OracleRuns {
                 int[] then = new int[best.length];
                 Arrays.fill(then, 1 << 20);
                 for (int gone = 0; gone < best.length; gone++) {
-                    for (int j = 0; j < to.size(); j++) {
+                    for (int j = 0; best[gone] < 1 << 20 && j < to.size(); j++) {
                         int with = gone | 1 << j;
                         then[with] = Math.min(then[with], best[gone] + apart(a, to.get(j)));
                     }
@@ -432,18 +436,15 @@ public final class OracleRuns {
             int[] cost = new int[1 << m];
             Arrays.fill(cost, 1 << 20);
             cost[goal] = 0;
-            boolean changed = true;
-            while (changed) {
-                changed = false;
-                for (int set = 0; set < 1 << m; set++) {
-                    if (Integer.bitCount(set) == Integer.bitCount(goal)) {
-                        for (int next : steps(set)) {
-                            int through = 1 + pairs1(next) + cost[next];
-                            if (through < cost[set]) {
-                                cost[set] = through;
-                                changed = true;
-                            }
-                        }
+            ArrayDeque<Integer> bettered = new ArrayDeque<>(List.of(goal));
+            while (!bettered.isEmpty()) {
+                int next = bettered.remove();
+                int through = 1 + pairs1(next) + cost[next];
+                // a step can be gone both ways
+                for (int set : steps(next)) {
+                    if (through < cost[set]) {
+                        cost[set] = through;
+                        bettered.add(set);
                     }
                 }
             }

@@ -1,7 +1,12 @@
+import java.util.ArrayDeque;
+import java.util.Arrays;
+import java.util.List;
+
 /** The edges that the document names under "What it is" and "Terms": one test for each sentence. */
 public final class TermEdges extends Checks {
     public static void main(String[] args) {
         callsUpToTheLast();
+        askedUpToTheLast();
         numbersBeginAtNought();
         refusalsAreFarBelow();
         sizesOfTheRing();
@@ -26,18 +31,21 @@ public final class TermEdges extends Checks {
         wayOfMore();
         wayOfFewer();
         wayOfLikeSets();
+        wayIsTheLeast();
         nearestIsTheFirst();
         nearestIsTheLeast();
         easyOfLikeSets();
         easyGoesNextDoorOnly();
         easyLeavesTheFirstOut();
         easyCountsTheLast();
+        easyIsTheLeast();
         roundOfFew();
         roundLeavesNoughtOut();
         roundBeginsAtPlaceNought();
         roundBeginsAtTheFirstOther();
         roundDoesNotGoBack();
         roundTakesEachPlaceOnce();
+        roundIsTheLeast();
         insideCountsEachPartOnce();
         insideOfNoughtAndAll();
         end("term edges");
@@ -54,6 +62,23 @@ public final class TermEdges extends Checks {
         }
         due("call 511, told(8)", x.told(8), 16);
         due("call 512, at(0, 0)", x.at(0, 0), set(509 % 12));
+    }
+
+    /** What is asked is worked out anew each time; the last answer is as good as the first. */
+    private static void askedUpToTheLast() {
+        says("An object is used for at most 512 calls after it has been made");
+        int low = set(0, 1, 2, 3, 4, 5);
+        int high = set(6, 7, 8, 9, 10, 11);
+        ToneSets x = shelf(12, low, high, set(0, 1, 4), 0);
+        int first = x.easy(0, 1, 0);
+        int next = x.easy(0, 1, 1);
+        for (int call = 8; call <= 512; call += 5) {
+            due("call " + call + ", easy", x.easy(0, 1, 0), first);
+            due("then, next", x.easy(0, 1, 1), next);
+            due("then, way", x.way(0, 1), 6 * 3);
+            due("then, nearest", x.nearest(0, 1, 0), 6);
+            due("then, round", x.told(4), 3 + 16);
+        }
     }
 
     // ---- Terms
@@ -368,6 +393,52 @@ public final class TermEdges extends Checks {
         }
     }
 
+    private static void wayIsTheLeast() {
+        says("WAY: the least length of one.");
+        for (int m = LEAST_M; m <= MOST_M; m++) {
+            // all pairs in the small rings, a spread of them in the large ones
+            int stride = m < 8 ? 1 : 1 + (1 << 2 * m) / 6000;
+            for (int pair = 0; pair < 1 << 2 * m; pair += stride) {
+                int one = pair >> m;
+                int other = pair & allTones(m);
+                if (one != 0 && other != 0) {
+                    due("from " + one + " to " + other + " in a ring of " + m, shelf(m, one, other).way(0, 1), leastWay(one, other, m));
+                }
+            }
+        }
+    }
+
+    /** By which of the smaller set have been gone to, tone by tone of the larger. */
+    private static int leastWay(int one, int other, int m) {
+        boolean fewer = Integer.bitCount(one) < Integer.bitCount(other);
+        int larger = fewer ? other : one;
+        int smaller = fewer ? one : other;
+        int[] least = new int[1 << m];
+        Arrays.fill(least, MAX / 2);
+        least[0] = 0;
+        for (int tone = 0; tone < m; tone++) {
+            if ((larger >> tone & 1) != 0) {
+                least = withOneMore(least, tone, smaller, m);
+            }
+        }
+        return least[smaller];
+    }
+
+    private static int[] withOneMore(int[] least, int tone, int goals, int m) {
+        int[] then = new int[least.length];
+        Arrays.fill(then, MAX / 2);
+        // all parts of the goals, the set 0 last
+        for (int part = goals; part >= 0; part = part == 0 ? -1 : part - 1 & goals) {
+            for (int goal = 0; goal < m; goal++) {
+                if ((goals >> goal & 1) != 0) {
+                    int with = part | 1 << goal;
+                    then[with] = Math.min(then[with], least[part] + apart(tone, goal, m));
+                }
+            }
+        }
+        return then;
+    }
+
     private static void nearestIsTheFirst() {
         says("of all IMAGES OF the other SET the first by number, to which the WAY is the least");
         for (int m = LEAST_M; m <= MOST_M; m++) {
@@ -431,6 +502,65 @@ public final class TermEdges extends Checks {
         due("to three in a row", shelf(12, set(0, 1, 3), set(0, 1, 2)).easy(0, 1, 0), 3);
     }
 
+    private static void easyIsTheLeast() {
+        says("the least that it can cost together");
+        for (int m = LEAST_M; m <= MOST_M; m++) {
+            int stride = m < 8 ? 1 : (1 << m) / 25;
+            for (int goal = 0; goal <= allTones(m); goal += stride) {
+                int[] costs = costsTo(goal, m);
+                for (int set = 0; set <= allTones(m); set += m < 8 ? 1 : 7) {
+                    if (Integer.bitCount(set) == Integer.bitCount(goal)) {
+                        ToneSets x = shelf(m, set, goal);
+                        due("from " + set + " to " + goal + " in a ring of " + m, x.easy(0, 1, 0), costs[set]);
+                        due("next from " + set + " to " + goal + " in a ring of " + m, x.easy(0, 1, 1), leastNext(set, goal, costs, m));
+                    }
+                }
+            }
+        }
+    }
+
+    private static int costOf(int set, int m) {
+        return 1 + Integer.bitCount(set & image(set, 1, m));
+    }
+
+    /** The set when the tones at a place of the ring and at the next one change about. */
+    private static int step(int set, int tone, int m) {
+        int next = (tone + 1) % m;
+        boolean isStep = (set >> tone & 1) != (set >> next & 1);
+        return isStep ? set ^ 1 << tone ^ 1 << next : set;
+    }
+
+    /** From each set on to the goal: bettered until nothing changes. */
+    private static int[] costsTo(int goal, int m) {
+        int[] costs = new int[1 << m];
+        Arrays.fill(costs, MAX / 2);
+        costs[goal] = 0;
+        ArrayDeque<Integer> bettered = new ArrayDeque<>(List.of(goal));
+        while (!bettered.isEmpty()) {
+            int next = bettered.remove();
+            int through = costs[next] + costOf(next, m);
+            for (int tone = 0; tone < m; tone++) {
+                int set = step(next, tone, m);
+                if (through < costs[set]) {
+                    costs[set] = through;
+                    bettered.add(set);
+                }
+            }
+        }
+        return costs;
+    }
+
+    private static int leastNext(int set, int goal, int[] costs, int m) {
+        int least = MAX;
+        for (int tone = 0; tone < m; tone++) {
+            int next = step(set, tone, m);
+            if (next != set && costs[next] + costOf(next, m) == costs[set]) {
+                least = Math.min(least, next);
+            }
+        }
+        return set == goal ? NONE : least;
+    }
+
     private static void roundOfFew() {
         says("(0, if there is one or none");
         due("none", new ToneSets().told(4), 0);
@@ -469,6 +599,44 @@ public final class TermEdges extends Checks {
         due("eight in a row", shelf(12, set(0), set(9), set(1), set(6), set(3), set(2), set(4), set(11)).told(4), 11);
         due("eight with like ones", shelf(12, 1, 1, 1, 1, 1, 1, 1, set(6)).told(4), 6);
         due("the last place counts", shelf(12, 1, 1, 1, 1, 1, 1, set(6), set(1)).told(4), 6);
+    }
+
+    private static void roundIsTheLeast() {
+        says("the least that WAYS from PLACE to PLACE can be together");
+        for (int m = LEAST_M; m <= MOST_M; m++) {
+            for (int places = 1; places <= 8; places++) {
+                ToneSets x = shelf(m);
+                x.seed(100 * m + places);
+                x.drift(places);
+                int start = 0;
+                while (start < places && x.at(start, 0) == 0) {
+                    start++;
+                }
+                int due = start == places ? 0 : leastRow(lengths(x, places), start, 1 << start);
+                due("round of " + places + " in a ring of " + m, x.told(4), due);
+            }
+        }
+    }
+
+    private static int[][] lengths(ToneSets x, int places) {
+        int[][] lengths = new int[places][places];
+        for (int p = 0; p < places; p++) {
+            for (int q = 0; q < places; q++) {
+                lengths[p][q] = x.way(p, q);
+            }
+        }
+        return lengths;
+    }
+
+    /** All rows one by one; a way that is refused is to a place with the set 0. */
+    private static int leastRow(int[][] lengths, int last, int visited) {
+        int least = MAX;
+        for (int next = 0; next < lengths.length; next++) {
+            if ((visited >> next & 1) == 0 && lengths[last][next] != NOT) {
+                least = Math.min(least, lengths[last][next] + leastRow(lengths, next, visited | 1 << next));
+            }
+        }
+        return least == MAX ? 0 : least;
     }
 
     // ---- 3
